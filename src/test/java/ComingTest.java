@@ -55,6 +55,10 @@ public final class ComingTest {
         Due.same("15: BAD", x.comes(Integer.MAX_VALUE), BAD);
         DoubtCourt aunt = Due.laid("c3,9;c2,9;n1,99;");
         Due.same("15: when the aunt has come to doubt", aunt.comes(0), 7);
+        DoubtCourt slow = Due.laid("c3,9;c0,2;c0,0;c0,5;c0,1;c0,6;c0,4;n1,9010000;");
+        Due.same("15: by aunt and row of plain ones, among the latest that come", slow.comes(0), 31);
+        Due.same("15: not known a day ahead of it", slow.behind(30, 0, -1), 0);
+        Due.same("15: known then", slow.behind(31, 0, -1), 9);
         Due.same("15: of the first court", new DoubtCourt().comes(3), 6);
     }
 
@@ -62,6 +66,7 @@ public final class ComingTest {
         DoubtCourt x = Due.laid("c2,9;c2,9;n1,00;n0,00;n0,00;");
         Due.same("16: the lowest of two", x.first(), 1);
         x.pass(1);
+        Due.same("16: whatever was asked ahead", x.behind(1, 0, -1), 9);
         Due.same("16: of what is not known", x.first(), 0);
         x.pass(1);
         Due.same("16: all is known", x.first(), NONE);
