@@ -77,14 +77,15 @@ public final class ReignsTest {
         Due.same("27: DRAW of 0 and 0 is 1: 3 less", x.reign(0, 1, 1), 6);
         Due.same("27: DRAW of 0 and 1 is 41487: nothing", x.reign(0, 2, 1), 6);
         for (int z : new int[] {0, 1, 2, 17, 500, 9999}) {
+            DoubtCourt y = Due.laid("c2,9;n0,9;");
             int belief = 9;
             int known = 0;
             for (int k = 0; k < 60; k++) {
                 int way = draw(z, k) % 8;
                 belief = way == 0 ? Math.min(9, belief + 3) : way == 1 ? Math.max(0, belief - 3) : belief;
                 known = belief <= 4 ? 1 : known;
-                Due.same("27: known by " + z + " of " + (k + 1), x.reign(z, k + 1, 0), known);
-                Due.same("27: beliefs by " + z + " of " + (k + 1), x.reign(z, k + 1, 1), belief);
+                Due.same("27: known by " + z + " of " + (k + 1), y.reign(z, k + 1, 0), known);
+                Due.same("27: beliefs by " + z + " of " + (k + 1), y.reign(z, k + 1, 1), belief);
             }
         }
         Due.same("27: nothing changes", x.belief(0, 0) * 10 + x.count(2), 90);
