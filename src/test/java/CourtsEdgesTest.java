@@ -410,6 +410,19 @@ public final class CourtsEdgesTest {
     }
 
     private static void beliefsOfLaterOnes() {
+        for (String other : new String[] {"c2,9;c2,9;n0,99;n1,99;", "c2,9;c2,9;c2,9;n0,999;n2,999;x"}) {
+            Script.play("5: told behind the news: 0, whatever was read ahead", "text " + other + """
+
+                fault = %s
+                lay = %s
+                wipe = %d
+                told c2,9;n0,5;c2,9;n1,55;c2,9;
+                belief 0 0|1 = 5
+                belief 1 0 = 0
+                belief 2 0|1 = 0
+                count 4 = 15
+                """.formatted(other.endsWith("x") ? "29" : "NONE", other.endsWith("x") ? "NO" : "2", other.length()));
+        }
         Script.play("5: told behind the news: 0", """
             told c2,9;n0,9;c2,9;n1,98;c2,9;n2,987;
             belief 0 0 = 9

@@ -194,6 +194,9 @@ public final class ReignsEdgesTest {
                 // handed to one who doubts it, it goes up from there; the first is next to the king
                 Script.play("27: handed to " + c, "told c2,9;c2,9;n1,04;n1,04;\nreign " + z + " 1 0 ~ " + (c == 0 ? 1 : 0)
                         + "\nreign " + z + " 1 1 ~ 8\nnews " + n + " 0 = 1");
+                // and to one who believes it, too: the king is not told that one on the day
+                Script.play("27: handed to " + c, "told c2,9;c2,9;n0,09;n0,09;\nreign " + z + " 1 0 ~ " + (c == 0 ? 2 : 1)
+                        + "\nreign " + z + " 1 1 ~ 18\nnews " + n + " 0 = 0");
             }
         }
         Due.isTrue("27: each is met", met[0] > 9 && met[1] > 9 && met[2] > 9);

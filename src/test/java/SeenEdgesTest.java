@@ -12,6 +12,7 @@ public final class SeenEdgesTest {
         whichByWho();
         whichByAllThatIsSeen();
         fromTheDayOnWhichItIsAsked();
+        seenBeyond999();
         kindsRefuse();
         kindsOfEach();
         kindsOfKnownNews();
@@ -200,6 +201,19 @@ public final class SeenEdgesTest {
             back = 0
             count 5 = 1
             which ~ 1
+            """);
+    }
+
+    private static void seenBeyond999() {
+        Script.play("24, 25: the 999 days bind nothing that is seen", """
+            told c2,9;c2,9;n0,99;n1,99;
+            pass 24 = 0 x 41
+            pass 15 = 0
+            pass 1 ~ NO
+            see 0 20 = 1
+            which ~ 1
+            kinds 1 0 ~ 7
+            kinds 1 1 ~ 0
             """);
     }
 
