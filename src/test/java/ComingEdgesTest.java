@@ -1,7 +1,7 @@
 /** Promises 14 to 21 at their edges: the bound, the first number beyond it, the empty, the full, what is refused. */
 public final class ComingEdgesTest {
     private static final String SEVEN_DRY = "c2,9;c2,9;c2,9;c2,9;c2,9;c2,9;c2,9;";
-    /** Known behind 31 days: the latest that was found; none comes later than 37 (NOTES.md), so 60 and 61 are alike. */
+    /** Known behind 31 days: none comes later (NOTES.md tells why), so a bound of 60 and one of 61 are alike. */
     private static final String SLOW = "told c3,9;c0,2;c0,0;c0,5;c0,1;c0,6;c0,4;n1,9010000;\n";
 
     public static void main(String[] args) {
